@@ -1,7 +1,8 @@
 /** All promises together: long runs of mixed calls, each answer held against the one of Model. */
 public final class ModelTest {
     private static final int RUNS = 60;
-    private static final int CALLS = 250;
+    // As many as the document lets an object be used for.
+    private static final int CALLS = 512;
     private static final int[] EXTREMES = {Integer.MIN_VALUE, -1, 1 << 10, Integer.MAX_VALUE};
 
     private static long state = 20261115L;
