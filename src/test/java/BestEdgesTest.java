@@ -143,7 +143,7 @@ public final class BestEdgesTest {
     private static void oneLostNameOutweighsTheRest() {
         UpgradeOptimiser x = new UpgradeOptimiser();
         Given.tenPackages(x);
-        // Name 0 stays in its old version only with the old ones of all other names, and those are not installed.
+        // Name 0 stays only in its old version, and that only with the old ones of all other names.
         shutOut(x, 5);
         x.need(0, false, 1, 1);
         x.need(0, false, 2, 1);
@@ -152,30 +152,36 @@ public final class BestEdgesTest {
         for (int p = 6; p < 10; p++) {
             x.clash(p, false, 0, 1);
         }
-        x.install(1 | 15 << 6);
-        due("no name lost, eight changed, five stale", x, 31, 0, 8, 5);
+        x.install(31 << 5);
+        due("no name lost, all ten changed, all five stale", x, 31, 0, 10, 5);
         x.wish(0, false);
-        due("name 0 away", x, 15 << 6, 1, 1, 0);
+        due("what that is better than: one lost, one changed, none stale", x, 15 << 6, 1, 1, 0);
     }
 
     // The same sentence: the second before the third
     private static void oneChangedPackageOutweighsStaleNames() {
         UpgradeOptimiser x = new UpgradeOptimiser();
-        x.addPackage(0, 1, 0);
-        x.addPackage(1, 1, 0);
-        x.addPackage(2, 1, 0);
-        x.addPackage(3, 1, 0);
         x.addPackage(4, 1, 0);
-        x.addPackage(4, 2, 0);
-        x.addPackage(0, 2, 0);
-        x.addPackage(1, 2, 0);
-        x.addPackage(2, 2, 0);
-        x.addPackage(3, 2, 0);
-        x.install(31 | 32);
-        // Of name 4 one of two must go: the newer one stays, since the number of changes is the same.
-        due("one change, four stale", x, 15 | 32, 0, 1, 4);
-        x.clash(5, false, 0, 1);
-        due("one change and five stale before three changes and three stale", x, 31, 0, 1, 5);
+        for (int p = 1; p < 9; p++) {
+            x.addPackage((p - 1) % 4, 1 + p / 5, 0);
+        }
+        // Of names 0 to 3 both versions are installed, so that four packages must go.
+        x.install(510);
+        due("the new ones stay", x, 480, 0, 4, 0);
+        for (int p = 5; p < 9; p++) {
+            x.need(p, false, 4, 1);
+        }
+        due("four stale before one more changed", x, 30, 0, 4, 4);
+        x.wish(4, true);
+        due("that one is to be there", x, 481, 0, 5, 0);
+
+        UpgradeOptimiser y = new UpgradeOptimiser();
+        Given.tenPackages(y);
+        for (int p = 5; p < 9; p++) {
+            y.need(p, false, 4, 2);
+        }
+        y.install(511);
+        due("all five stale before two more changed", y, 31, 0, 4, 5);
     }
 
     // "of several the one with the smallest number"

@@ -11,6 +11,7 @@ public final class TermsEdgesTest {
         noTwoHaveTheSameNameAndVersion();
         eachHasASetOfFeatures();
         upToTwoNeedsAndTwoClashes();
+        aPatternIsANameOrAFeature();
         aNeedHasOneOrTwoPatterns();
         aNeedIsMetByOneOfItsPatterns();
         aNameIsNeededAtLeastAtItsBound();
@@ -122,6 +123,34 @@ public final class TermsEdgesTest {
             }
         }
         Check.due("all needs met, no clash touched: rightSets()", x.rightSets(), 243);
+    }
+
+    // "A PATTERN is either a name with a bound or a feature."
+    private static void aPatternIsANameOrAFeature() {
+        for (int number = 0; number < 4; number++) {
+            for (int kind = 0; kind < 2; kind++) {
+                boolean feature = kind == 1;
+                UpgradeOptimiser x = new UpgradeOptimiser();
+                x.addPackage(4, 1, 0);
+                x.addPackage(number, 1, 15 ^ 1 << number);
+                x.addPackage((number + 1) % 4, 1, 1 << number);
+                x.addPackage((number + 2) % 4, 1, 0);
+                x.need(0, feature, number, 1);
+                x.need(3, feature, (number + 1) % 4, 2);
+                x.orNeed(3, feature, number, 1);
+                String text = (feature ? "feature " : "name ") + number;
+                Check.due(text + ", needed: the name", x.right(1 | 2), !feature);
+                Check.due(text + ", needed: the feature", x.right(1 | 4), feature);
+                Check.due(text + ", second pattern: the feature", x.right(8 | 4), feature);
+                UpgradeOptimiser y = new UpgradeOptimiser();
+                y.addPackage(4, 1, 0);
+                y.addPackage(number, 1, 15 ^ 1 << number);
+                y.addPackage((number + 1) % 4, 1, 1 << number);
+                y.clash(0, feature, number, 1);
+                Check.due(text + ", clashing: the name", y.right(1 | 2), feature);
+                Check.due(text + ", clashing: the feature", y.right(1 | 4), !feature);
+            }
+        }
     }
 
     // "A need is a list of one or two patterns."
